@@ -1215,31 +1215,50 @@ public final class VintageWater {
             put(year, -n);
         }
 
-        /** The year of which there are the most, of several the latest; NONE if it is empty. */
-        int yearOfMost() {
-            int most = 0;
-            int best = NONE;
-            for (int year = 0; year < YEARS; year++) {
-                if (layers[year] > 0 && layers[year] >= most) {
-                    most = layers[year];
-                    best = year;
+        /**
+         * So many measures go to another cistern (or nowhere), one by one of the year of which there are the most, of
+         * several the latest: all years are cut to one level, and of those that reach it the latest give one more.
+         */
+        void giveMost(Cistern to, int n) {
+            int level = levelFor(n);
+            int rest = n - measuresAbove(level);
+            for (int year = YEARS - 1; year >= 0; year--) {
+                int part = Math.max(0, layers[year] - level);
+                if (rest > 0 && layers[year] >= level) {
+                    part++;
+                    rest--;
+                }
+                take(year, part);
+                if (to != null) {
+                    to.put(year, part);
                 }
             }
-            return best;
         }
 
-        /** How many measures of the year of most can go, one by one, before another year has more: 1 at least. */
-        int runOf(int best) {
-            int second = 0;
-            int most = 0;
+        /** The lowest level above which there are so many measures at most. */
+        private int levelFor(int n) {
+            int high = 0;
             for (int year = 0; year < YEARS; year++) {
-                if (year == best) {
-                    most = layers[year];
+                high = Math.max(high, layers[year]);
+            }
+            int low = Math.max(0, high - n);
+            for (int i = 0; i < MOST_MEASURES && low < high; i++) {
+                int middle = (low + high) / 2;
+                if (measuresAbove(middle) <= n) {
+                    high = middle;
                 } else {
-                    second = Math.max(second, layers[year]);
+                    low = middle + 1;
                 }
             }
-            return Math.max(1, most - second);
+            return high;
+        }
+
+        private int measuresAbove(int level) {
+            int sum = 0;
+            for (int year = 0; year < YEARS; year++) {
+                sum += Math.max(0, layers[year] - level);
+            }
+            return sum;
         }
     }
 
@@ -1509,17 +1528,14 @@ public final class VintageWater {
 
         /** So many measures of the year of most each go to another cistern; what finds no room there, or no cistern, is lost. */
         void moveMost(Cistern from, Cistern to, int n) {
-            int left = n;
-            for (int i = 0; i < n && left > 0 && from.measures > 0; i++) {
-                int year = from.yearOfMost();
-                int run = Math.min(left, from.runOf(year));
-                int fits = to == null ? 0 : Math.min(run, to.free());
-                from.take(year, run);
-                if (to != null) {
-                    to.put(year, fits);
-                }
-                lost += run - fits;
-                left -= run;
+            int moved = Math.min(n, from.measures);
+            int fits = to == null ? 0 : Math.min(moved, to.free());
+            if (fits > 0) {
+                from.giveMost(to, fits);
+            }
+            if (moved > fits) {
+                from.giveMost(null, moved - fits);
+                lost += moved - fits;
             }
         }
 
