@@ -77,7 +77,7 @@ public final class VintageWater {
     private static final int END = 3000;
 
     private static final int FACTS = 9;
-    // Each level of ( leaves at most an or and an and waiting, a comparison two sums: fewer than this.
+    // What waits at once: on each level of ( one side of an or and one of an and, of a comparison a sum and two parts.
     private static final int STACK = 32;
 
     private final Tape tape = new Tape();
@@ -117,7 +117,8 @@ public final class VintageWater {
     }
 
     public int land() throws IllegalArgumentException, UnsupportedOperationException {
-        boolean right = landText.isRead(now.cisterns, now.houses);
+        landText.begin(now.cisterns, now.houses);
+        boolean right = landText.isRead();
         wrong = tape.wrong;
         tape.size = 0;
         if (!right) {
@@ -132,6 +133,7 @@ public final class VintageWater {
     }
 
     public int law() throws IllegalArgumentException {
+        lawText.begin();
         boolean right = lawText.isRead();
         wrong = tape.wrong;
         tape.size = 0;
@@ -751,7 +753,9 @@ public final class VintageWater {
         }
 
         void step() {
-            at = Math.min(at + 1, MOST_BYTES);
+            if (at < MOST_BYTES) {
+                at++;
+            }
         }
 
         /** The thing at hand is the first that cannot stand there. */
@@ -779,33 +783,23 @@ public final class VintageWater {
         }
     }
 
-    /** A text of the land: its lines are kept until all of it is known to be right. */
-    private static final class LandText {
+    /** A text on the tape: lines with ; between them, or none. */
+    private abstract static class Lines {
         final Tape tape;
-        final int[] verbs = new int[MOST_LAND_LINES];
-        final int[] ones = new int[MOST_LAND_LINES];
-        final int[] twos = new int[MOST_LAND_LINES];
-        final int[] threes = new int[MOST_LAND_LINES];
+        final int most;
         int lines;
-        int cisterns;
-        int houses;
-        int one;
-        int two;
-        int three;
 
-        LandText(Tape tape) {
+        Lines(Tape tape, int most) {
             this.tape = tape;
+            this.most = most;
         }
 
-        boolean isRead(int cisternsBefore, int housesBefore) {
-            cisterns = cisternsBefore;
-            houses = housesBefore;
-            lines = 0;
+        boolean isRead() {
             tape.cut();
             if (tape.is(END)) {
                 return true;
             }
-            for (int i = 0; i < MOST_LAND_LINES; i++) {
+            for (int i = 0; i < most; i++) {
                 if (!isLine()) {
                     return false;
                 }
@@ -819,7 +813,32 @@ public final class VintageWater {
             return tape.fail();
         }
 
-        private boolean isLine() {
+        abstract boolean isLine();
+    }
+
+    /** A text of the land: its lines are kept until all of it is known to be right. */
+    private static final class LandText extends Lines {
+        final int[] verbs = new int[MOST_LAND_LINES];
+        final int[] ones = new int[MOST_LAND_LINES];
+        final int[] twos = new int[MOST_LAND_LINES];
+        final int[] threes = new int[MOST_LAND_LINES];
+        int cisterns;
+        int houses;
+        int one;
+        int two;
+        int three;
+
+        LandText(Tape tape) {
+            super(tape, MOST_LAND_LINES);
+        }
+
+        void begin(int cisternsBefore, int housesBefore) {
+            cisterns = cisternsBefore;
+            houses = housesBefore;
+            lines = 0;
+        }
+
+        boolean isLine() {
             int verb = tape.code();
             if (!mayBegin(verb)) {
                 return tape.fail();
@@ -935,16 +954,19 @@ public final class VintageWater {
     }
 
     /** A text of a law: its conditions become steps, in which what is joined comes ahead of what joins it. */
-    private static final class LawText {
-        final Tape tape;
+    private static final class LawText extends Lines {
         final int[] firsts = new int[MOST_LAW_LINES];
         final int[] ends = new int[MOST_LAW_LINES];
         final int[] steps = new int[MOST_BYTES];
-        int lines;
         int size;
 
         LawText(Tape tape) {
-            this.tape = tape;
+            super(tape, MOST_LAW_LINES);
+        }
+
+        void begin() {
+            lines = 0;
+            size = 0;
         }
 
         Law made() {
@@ -952,28 +974,7 @@ public final class VintageWater {
                 Arrays.copyOf(steps, Math.max(0, size)));
         }
 
-        boolean isRead() {
-            lines = 0;
-            size = 0;
-            tape.cut();
-            if (tape.is(END)) {
-                return true;
-            }
-            for (int i = 0; i < MOST_LAW_LINES; i++) {
-                if (!isLine()) {
-                    return false;
-                }
-                if (tape.is(END)) {
-                    return true;
-                }
-                if (!tape.takes(SEMICOLON)) {
-                    return false;
-                }
-            }
-            return tape.fail();
-        }
-
-        private boolean isLine() {
+        boolean isLine() {
             int first = NONE;
             if (tape.is(BAR)) {
                 tape.step();
@@ -1141,7 +1142,7 @@ public final class VintageWater {
         /** Whether these steps hold; no steps always do. */
         private boolean holds(int from, int to) {
             int top = 0;
-            for (int i = Math.max(0, from); i < to && i < steps.length; i++) {
+            for (int i = from; i >= 0 && i < to && i < steps.length; i++) {
                 int step = steps[i];
                 int fact = step - WORD;
                 if (step <= SEALED) {
@@ -1256,7 +1257,9 @@ public final class VintageWater {
         private int measuresAbove(int level) {
             int sum = 0;
             for (int year = 0; year < YEARS; year++) {
-                sum += Math.max(0, layers[year] - level);
+                if (layers[year] > level) {
+                    sum += layers[year] - level;
+                }
             }
             return sum;
         }

@@ -22,6 +22,9 @@ public final class AskTests {
         for (int c = 0; c < 2; c++) {
             for (int what = 0; what <= 6; what++) check.due("cistern(" + c + ", " + what + ")", x.cistern(c, what), due[c][what]);
         }
+        VintageWater drop = Check.water("cistern 9;cistern 9;salt 0 99;salt 29 98;pour 1 of 0 in 0;pour 1 of 29 in 1");
+        check.due("salt of one measure", drop.cistern(0, 6), 99);
+        check.due("salt of one measure", drop.cistern(1, 6), 98);
         check.refuses(x, "NoSuchElementException", "cistern(0, 7)", () -> x.cistern(0, 7));
         check.refuses(x, "NoSuchElementException", "cistern(0, -1)", () -> x.cistern(0, -1));
         check.refuses(x, "IndexOutOfBoundsException", "cistern(2, 0)", () -> x.cistern(2, 0));
@@ -132,6 +135,8 @@ public final class AskTests {
         check.due("count(-1)", x.count(-1), -1);
         check.due("count(14)", x.count(14), -1);
         check.due("count(MIN)", x.count(Integer.MIN_VALUE), -1);
+        VintageWater held = Check.water("cistern 10;cistern 5;cistern 9;pour 7 of 0 in 0;pour 9 of 1 in 1;pour 2 of 29 in 2");
+        check.due("measures in all", held.count(6), 14);
         check.due("the books", x.count(6) + x.count(7) + x.count(8) + x.count(9), x.count(10));
         for (int i = 0; i < 6; i++) x.months(60);
         check.due("NOW, 29 at most", x.count(5), 29);

@@ -5,6 +5,7 @@ public final class KeepTests {
     public static void main(String[] args) {
         undo();
         undoneMonths();
+        newAfterUndone();
         latest();
         image();
         back();
@@ -98,6 +99,30 @@ public final class KeepTests {
         String[] counts = told.split(" ", 13);
         counts[11] = "";
         return String.join(" ", counts).replaceAll("/-?[0-9]+", "");
+    }
+
+    /** What comes after a month that is undone is as new as it would be without that month. */
+    private static void newAfterUndone() {
+        check.promise(15);
+        String told = "cistern 9;house 2 at 1;salt 3 3";
+        VintageWater x = land();
+        VintageWater other = land();
+        x.months(1);
+        Check.land(x, "cistern 50 cracked;pour 9 of 1 in 2;seal 2;leak 2 away 1;house 3 at 2 bears 5;salt 1 9");
+        x.owe(1, 1, 5);
+        x.months(3);
+        for (int i = 0; i < 4; i++) x.undo();
+        check.due("land()", Check.land(x, told), Check.land(other, told));
+        check.due("owe", x.owe(1, 2, 3), other.owe(1, 2, 3));
+        check.same("after undone months", Check.told(x), Check.told(other));
+        // Nor does a house drink what one drank that was gone back from.
+        x.image();
+        Check.land(x, "house 1 at 0");
+        x.months(14);
+        x.back();
+        x.months(1);
+        Check.land(x, "house 1 at 0");
+        check.due("latest(2, 0)", x.latest(2, 0), 0);
     }
 
     private static void latest() {

@@ -18,8 +18,9 @@ public final class ModelTests {
 
     public static void main(String[] args) throws Exception {
         int runs = args.length > 0 ? Integer.parseInt(args[0]) : RUNS;
+        int first = args.length > 1 ? Integer.parseInt(args[1]) : 1;
         int failures = 0;
-        for (int run = 1; run <= runs && failures < 3; run++) {
+        for (int run = first; run < first + runs && failures < 3; run++) {
             ModelTests test = new ModelTests();
             test.state = run * 7919L;
             if (!test.passes()) {

@@ -151,6 +151,15 @@ public final class MonthTests {
             check.due("the second seal", x.cistern(2, 2), sealed > 0 ? 1 : 0);
         }
         check.due("seals left", sealed, 0);
+        // Modulo 100 below 20: 19 is, 20 is not.
+        for (int rest = 18; rest <= 21; rest++) {
+            int begun = 1;
+            while ((begun * 1103515245 + 12345 >>> 16 & 32767) % 100 != rest) begun++;
+            VintageWater edge = Check.water("cistern 9;seal 0");
+            edge.seed(begun);
+            edge.months(12);
+            check.due("SEALED, by a draw of " + rest, edge.cistern(0, 2), rest < 20 ? 0 : 1);
+        }
         // A draw goes by in any case, also in years that are past the last one.
         VintageWater bare = new VintageWater();
         for (int i = 0; i < 7; i++) bare.months(60);

@@ -9,6 +9,7 @@ public final class TextTests {
         end();
         land();
         landLines();
+        smallestAndGreatest();
         wrongLand();
         manyOfTheLand();
         law();
@@ -119,6 +120,25 @@ public final class TextTests {
         check.due("of year 0", x.layer(3, 0), 33);
         check.due("spilled", x.count(9), 4 + 999 - 33);
         check.due("its cistern", x.house(2, 1), 4);
+    }
+
+    private static void smallestAndGreatest() {
+        check.promise(4);
+        VintageWater x = Check.water("cistern 1;cistern 9;pour 0 of 0 in 0;leak 0 to 1 0;house 0 at 1 bears 99;salt 0 0");
+        check.due("measures", x.cistern(0, 5), 0);
+        check.due("leak of 0", x.cistern(0, 3), 0);
+        check.due("toward", x.cistern(0, 4), 1);
+        // Nothing of a wrong text is known to the next one.
+        VintageWater bare = new VintageWater();
+        check.refuses(bare, "IllegalArgumentException", "a wrong text", () -> Check.land(bare, "cistern 5;house 1 at 0;x"));
+        check.refuses(bare, "IllegalArgumentException", "no cistern", () -> Check.land(bare, "pour 1 of 1 in 0"));
+        check.due("fault()", bare.fault(), 15);
+        String houses = "house 1 at 0;house 1 at 0;house 1 at 0;house 1 at 0;house 1 at 0";
+        check.refuses(bare, "IllegalArgumentException", "a wrong text", () -> Check.land(bare, "cistern 5;" + houses + ";x"));
+        check.due("land()", Check.land(bare, "cistern 5;" + houses), 1);
+        check.due("law()", Check.law(x, "first 0;first 1 if 999 > 998;first 2 if 999 < 999"), 3);
+        check.due("seal", x.winter(1), 0);
+        check.due("place(0, 0)", x.place(0, 0), 1);
     }
 
     private static void wrongLand(String text, int fault) {
@@ -239,6 +259,12 @@ public final class TextTests {
         check.due("place(1, 5)", x.place(1, 5), 7);
         Check.law(x, "first 1 if 2 + 3 + 4 > 8;first 2 if 9 > 4 + 5;first 4 if 9 < 9;first 8 if 8 < 9");
         check.due("place(0, 0)", x.place(0, 0), 9);
+        VintageWater kinds = Check.water("cistern 9;cistern 9 holy;cistern 9 common;cistern 9 cracked;pour 5 of 0 in 0;pour 5 of 0 in 1;"
+            + "pour 5 of 0 in 2;pour 5 of 0 in 3;seal 0;seal 2");
+        Check.law(kinds, "first 1 if holy;first 2 if common;first 4 if cracked;first 8 if sealed;first 16 if not holy;first 32 if not common;"
+            + "first 64 if not cracked;first 128 if not sealed");
+        int[] places = {8 + 16 + 32 + 64, 1 + 32 + 64 + 128, 2 + 8 + 16 + 64, 4 + 16 + 32 + 128};
+        for (int c = 0; c < 4; c++) check.due("place(" + c + ", 0)", kinds.place(c, 0), places[c]);
         // month and age go on.
         Check.law(x, "first 1 if month < 1;first 2 if month > 0 and month < 2;first 4 if age > 0;first 8 if age > 1");
         check.due("place(0, 0)", x.place(0, 0), 1);

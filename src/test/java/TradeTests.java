@@ -73,6 +73,10 @@ public final class TradeTests {
         check.refuses(x, "IllegalArgumentException", "below 0", () -> x.swap(0, 1, 1, 2, -1));
         check.refuses(x, "IndexOutOfBoundsException", "no cistern", () -> x.swap(2, 1, 2, 1, -1));
         check.refuses(x, "IndexOutOfBoundsException", "no cistern", () -> x.swap(0, 1, -1, 2, 1));
+        check.refuses(x, "IndexOutOfBoundsException", "no cistern", () -> x.swap(2, 1, 0, 2, 1));
+        check.refuses(x, "IndexOutOfBoundsException", "no cistern", () -> x.swap(-1, 1, 0, 2, 1));
+        check.refuses(x, "IndexOutOfBoundsException", "no year", () -> x.swap(0, 30, 1, 2, 1));
+        check.refuses(x, "IndexOutOfBoundsException", "no year", () -> x.swap(0, -1, 1, 2, 1));
         check.refuses(x, "IndexOutOfBoundsException", "no year", () -> x.swap(0, 30, 0, 30, 1));
         check.refuses(x, "IndexOutOfBoundsException", "no year", () -> x.swap(0, 1, 1, -1, 1));
     }
@@ -90,6 +94,9 @@ public final class TradeTests {
         check.due("owed(5, 21)", x.owed(5, 21), 15);
         check.due("owed(5, 22)", x.owed(5, 22), -1);
         check.due("owed(7, 0)", x.owed(7, 0), 0);
+        check.due("land()", Check.land(x, "pour 2 of 0 in 3;pour 2 of 29 in 2"), 2);
+        check.due("owed(0, 1)", x.owed(0, 1), 8);
+        check.due("owed(29, 1)", x.owed(29, 1), 4);
         check.due("owed(7, 1)", x.owed(7, 1), -1);
         check.due("owed(6, 999)", x.owed(6, 999), -1);
         check.due("owed(0, 0) without cisterns", new VintageWater().owed(0, 0), 0);
@@ -150,6 +157,16 @@ public final class TradeTests {
         check.due("settle(1) by what there is", x.settle(1), 4);
         check.due("debt(1)", x.debt(1), 5);
         check.due("layer(1, 2)", x.layer(1, 2), 4);
+        // A debt is that of its house, also when a month is undone.
+        VintageWater two = Check.water("cistern 9;cistern 9;cistern 9;pour 5 of 0 in 0;pour 5 of 29 in 0;house 0 at 1;house 0 at 2");
+        two.owe(1, 0, 3);
+        two.owe(0, 29, 2);
+        two.months(1);
+        two.undo();
+        check.due("settle(0)", two.settle(0), 3);
+        check.due("settle(1)", two.settle(1), 2);
+        check.due("layer(2, 0)", two.layer(2, 0), 3);
+        check.due("layer(1, 29)", two.layer(1, 29), 2);
         check.refuses(x, "IndexOutOfBoundsException", "settle(2)", () -> x.settle(2));
         check.refuses(x, "IndexOutOfBoundsException", "settle(-1)", () -> x.settle(-1));
     }
@@ -175,5 +192,8 @@ public final class TradeTests {
         check.refuses(x, "IllegalArgumentException", "mix(0, 1, -1)", () -> x.mix(0, 1, -1));
         check.refuses(x, "IndexOutOfBoundsException", "mix(2, 2, -1)", () -> x.mix(2, 2, -1));
         check.refuses(x, "IndexOutOfBoundsException", "mix(0, -1, 1)", () -> x.mix(0, -1, 1));
+        check.refuses(x, "IndexOutOfBoundsException", "mix(0, 2, 1)", () -> x.mix(0, 2, 1));
+        check.refuses(x, "IndexOutOfBoundsException", "mix(-1, 0, 1)", () -> x.mix(-1, 0, 1));
+        check.refuses(x, "IndexOutOfBoundsException", "mix(2, 0, 1)", () -> x.mix(2, 0, 1));
     }
 }

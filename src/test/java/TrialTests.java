@@ -56,6 +56,11 @@ public final class TrialTests {
         stays(x, "worst()", x::worst, 3);
         x.months(1);
         stays(x, "worst()", x::worst, 1);
+        x.months(1);
+        check.due("land()", Check.land(x, "cistern 9;house 1 at 1"), 2);
+        stays(x, "worst()", x::worst, 1);
+        VintageWater first = Check.water("cistern 9;house 1 at 0;house 1 at 0");
+        stays(first, "worst()", first::worst, 0);
         VintageWater none = Check.water("cistern 9;house 0 at 0");
         stays(none, "worst()", none::worst, -1);
         stays(none, "lasts()", none::lasts, 60);
@@ -84,6 +89,9 @@ public final class TrialTests {
         Check.law(x, "first 1 if measures < 2");
         stays(x, "by measures", () -> Check.judge(x, "a1a1a3a3"), -1);
         stays(x, "by measures", () -> Check.judge(x, "a1a3"), 1);
+        VintageWater zero = Check.water("cistern 9;pour 2 of 0 in 0;salt 0 7;house 1 at 0 bears 7;house 1 at 0 bears 6");
+        stays(zero, "year 0, its salt at the limit", () -> Check.judge(zero, "a0a0a0"), 2);
+        stays(zero, "year 0, its salt above the limit", () -> Check.judge(zero, "a0b0"), 1);
         VintageWater last = Check.water("cistern 9;pour 2 of 29 in 0;house 1 at 0");
         stays(last, "year 29", () -> Check.judge(last, "aM"), -1);
         check.refuses(last, "IllegalArgumentException", "year 30", () -> Check.judge(last, "aN"));
@@ -166,6 +174,8 @@ public final class TrialTests {
         check.refuses(x, "IllegalArgumentException", "too few", () -> Check.look(x, 20, 9, 250));
         check.refuses(x, "IllegalArgumentException", "too many", () -> Check.look(x, 20, 9, 250, 0, 0));
         check.due("the tape is used up", x.end(1), false);
+        VintageWater drop = Check.water("cistern 9 cracked;cistern 9;pour 1 of 0 in 0;pour 3 of 0 in 1");
+        stays(drop, "a cracked one of one measure", () -> Check.look(drop, 1, 2), 8);
         VintageWater high = Check.water("cistern 999;cistern 9;pour 300 of 0 in 0");
         stays(high, "more than a byte tells", () -> Check.look(high, 255, 0), -1);
         stays(high, "a byte is 255 at most, not below 0", () -> Check.look(high, 255, 45), 1);
