@@ -117,8 +117,12 @@ public final class KeepTests {
         check.same("after undone months", Check.told(x), Check.told(other));
         // Nor does a house drink what one drank that was gone back from.
         x.image();
-        Check.land(x, "house 1 at 0");
+        Check.land(x, "house 60 at 0");
+        String begun = Check.told(x);
         x.months(14);
+        x.back();
+        Check.land(x, "house 60 at 0");
+        check.same("what comes after an image was gone back to", Check.told(x), begun);
         x.back();
         x.months(1);
         Check.land(x, "house 1 at 0");
@@ -201,5 +205,15 @@ public final class KeepTests {
         }
         x.months(1);
         check.due("undo()", x.undo(), 2);
+        // A debt is gone back to with its house and its year.
+        VintageWater two = Check.water("cistern 9;cistern 9;cistern 9;pour 5 of 1 in 0;pour 5 of 2 in 0;house 0 at 1;house 0 at 2");
+        two.months(1);
+        two.owe(1, 2, 3);
+        two.image();
+        two.undo();
+        two.owe(0, 1, 4);
+        two.back();
+        check.due("settle(0)", two.settle(0), 3);
+        check.due("layer(2, 2)", two.layer(2, 2), 3);
     }
 }

@@ -221,6 +221,8 @@ public final class TextTests {
         wrongLand(lines + "!", lines.length());
         wrongLand(SEVEN, 60);
         wrongLand("  " + SEVEN, 62);
+        String row = "house 1 at 0;house 1 at 0;house 1 at 0;";
+        wrongLand(row + row + row, 8 * 13);
         VintageWater full = Check.water(SEVEN, "cistern 8");
         check.due("cisterns", full.count(0), 8);
         check.due("room", full.cistern(7, 0), 8);
