@@ -7,14 +7,19 @@ final class Check {
     private final String name;
     private int checks = 0;
     private int wrong = 0;
-    private int promise = 0;
+    private String held = "";
 
     Check(String name) {
         this.name = name;
     }
 
     void promise(int number) {
-        promise = number;
+        held = "promise " + number;
+    }
+
+    /** The words of the document that what follows is held against. */
+    void says(String words) {
+        held = "\"" + words + "\"";
     }
 
     void due(String what, long got, long want) {
@@ -31,21 +36,39 @@ final class Check {
         if (!got.equals(want)) tellWrong(what + "\n  got " + got + "\n  due " + want);
     }
 
+    /** The call answers this; an exception is a wrong answer. */
+    void gives(String what, Call call, long want) {
+        same(what, answerOf(call), Long.toString(want));
+    }
+
+    /** The call throws just this exception, none of its subclasses. */
+    void throwsJust(String exception, String what, Call call) {
+        same(what, answerOf(call), "throws." + exception);
+    }
+
+    /** The call answers this, if it may; else it throws IllegalArgumentException. */
+    void throwsOrGives(String what, Call call, boolean may, long want) {
+        if (may) gives(what, call, want);
+        else throwsJust("IllegalArgumentException", what, call);
+    }
+
+    private static String answerOf(Call call) {
+        try {
+            return Long.toString(call.answer());
+        } catch (RuntimeException e) {
+            return "throws." + e.getClass().getSimpleName();
+        }
+    }
+
     private void tellWrong(String what) {
         wrong++;
-        System.out.println(name + ", promise " + promise + ": " + what);
+        System.out.println(name + ", " + held + ": " + what);
     }
 
     /** The call throws just this exception, none of its subclasses, and nothing that can be asked is another by it. */
     void refuses(VintageWater x, String exception, String what, Call call) {
         String before = told(x);
-        String thrown = "nothing";
-        try {
-            call.answer();
-        } catch (RuntimeException e) {
-            thrown = e.getClass().getSimpleName();
-        }
-        same(what + " throws", thrown, exception);
+        throwsJust(exception, what, call);
         same(what + " changes nothing", told(x), before);
     }
 
@@ -94,13 +117,29 @@ final class Check {
         return x;
     }
 
+    static int seedOf(VintageWater x) {
+        int seed = x.seed(0);
+        x.seed(seed);
+        return seed;
+    }
+
+    static int drawnSeed(int seed) {
+        return 1103515245 * seed + 12345;
+    }
+
+    /** The seed of which the next one is this. */
+    static int seedAhead(int next) {
+        int inverse = 1;
+        // Each round doubles the low bits in which the product is 1.
+        for (int i = 0; i < 5; i++) inverse *= 2 - 1103515245 * inverse;
+        return (next - 12345) * inverse;
+    }
+
     /** All that can be asked of the land, but for the tape and fault(). */
     static String told(VintageWater x) {
         StringBuilder all = new StringBuilder();
         for (int what = 0; what <= 13; what++) all.append(x.count(what)).append(' ');
-        int seed = x.seed(0);
-        x.seed(seed);
-        all.append("seed ").append(seed);
+        all.append("seed ").append(seedOf(x));
         for (int c = 0; c < x.count(0); c++) {
             all.append(" | cistern");
             for (int what = 0; what <= 6; what++) all.append(' ').append(x.cistern(c, what));

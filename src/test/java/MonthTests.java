@@ -141,11 +141,11 @@ public final class MonthTests {
         int seed = 1;
         for (int draw : draws) {
             x.months(11);
-            check.due("SEED ahead of frost", seedOf(x), seed);
+            check.due("SEED ahead of frost", Check.seedOf(x), seed);
             seed = seed * 1103515245 + 12345;
             check.due("the draw", seed >>> 16 & 32767, draw);
             x.months(1);
-            check.due("SEED", seedOf(x), seed);
+            check.due("SEED", Check.seedOf(x), seed);
             if (draw % 100 < 20 && sealed > 0) sealed--;
             check.due("the first seal", x.cistern(1, 2), sealed > 1 ? 1 : 0);
             check.due("the second seal", x.cistern(2, 2), sealed > 0 ? 1 : 0);
@@ -165,13 +165,7 @@ public final class MonthTests {
         for (int i = 0; i < 7; i++) bare.months(60);
         int due = 1;
         for (int i = 0; i < 35; i++) due = due * 1103515245 + 12345;
-        check.due("SEED", seedOf(bare), due);
-    }
-
-    private static int seedOf(VintageWater x) {
-        int seed = x.seed(0);
-        x.seed(seed);
-        return seed;
+        check.due("SEED", Check.seedOf(bare), due);
     }
 
     private static void oath() {
